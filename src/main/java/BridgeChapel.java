@@ -791,7 +791,6 @@ public final class BridgeChapel {
             first[member] = Math.min(one, other);
             second[member] = Math.max(one, other);
             strength[member] = strong;
-            // The row may hold what a member left that was undone.
             crack[member] = 0;
             wear[member] = 0;
             abandoned[member] = false;
@@ -1096,6 +1095,7 @@ public final class BridgeChapel {
             return spare;
         }
 
+        /** Asks for a state in which all vows would be kept; so the answer is never below 0. */
         int greatestFurther(int due) {
             int greatest = spareOn(due);
             for (int slot = 0; slot < waiting; slot++) {
@@ -1104,7 +1104,7 @@ public final class BridgeChapel {
                     greatest = Math.min(greatest, spareOn(dueDays[slot]));
                 }
             }
-            return Math.max(greatest, 0);
+            return greatest;
         }
     }
 
