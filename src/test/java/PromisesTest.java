@@ -1,83 +1,5 @@
-import java.util.NoSuchElementException;
-import java.util.Objects;
-
 /** The promises 1 to 58, one method each: ordinary inputs, the edges that the document names, and wrong inputs. */
-public final class PromisesTest {
-    private static final Class<?> INDEX = IndexOutOfBoundsException.class;
-    private static final Class<?> ARGUMENT = IllegalArgumentException.class;
-    private static final Class<?> STATE = IllegalStateException.class;
-    private static final Class<?> ELEMENT = NoSuchElementException.class;
-    private static final Class<?> UNSUPPORTED = UnsupportedOperationException.class;
-    private static final Class<?> ARITHMETIC = ArithmeticException.class;
-    private static final int LEAST = Integer.MIN_VALUE;
-    private static final int MOST = Integer.MAX_VALUE;
-
-    private interface Call {
-        Object answer();
-    }
-
-    private interface PairCall {
-        Object answer(int from, int to);
-    }
-
-    private interface MemberCall {
-        Object answer(int member);
-    }
-
-    private static int promise = 0;
-    private static int checks = 0;
-    private static int wrong = 0;
-
-    private static void due(Object want, Object got) {
-        checks++;
-        if (!Objects.equals(want, got)) {
-            wrong++;
-            System.out.println("promise " + promise + ": answered " + got + ", due is " + want + " at "
-                    + new Throwable().getStackTrace()[1]);
-        }
-    }
-
-    private static void refused(Class<?> want, Call call) {
-        Object got;
-        try {
-            got = call.answer();
-        } catch (RuntimeException e) {
-            got = e.getClass();
-        }
-        due(want, got);
-    }
-
-    private static String outputOf(BridgeChapel chapel, int length) {
-        StringBuilder text = new StringBuilder();
-        for (int index = 0; index < length; index++) {
-            text.append(chapel.outputAt(index));
-        }
-        refused(INDEX, () -> chapel.outputAt(length));
-        return text.toString();
-    }
-
-    private static void typeAll(BridgeChapel chapel, String text) {
-        for (char character : text.toCharArray()) {
-            chapel.type(character);
-        }
-    }
-
-    private static int run(BridgeChapel chapel, String text) {
-        typeAll(chapel, text);
-        return chapel.runScript();
-    }
-
-    /** Runs a script that must not have the form; answers its error position. */
-    private static int errorOf(BridgeChapel chapel, String text) {
-        refused(ARGUMENT, () -> run(chapel, text));
-        return chapel.errorPosition();
-    }
-
-    private static int failedOf(BridgeChapel chapel, String text) {
-        refused(STATE, () -> run(chapel, text));
-        return chapel.failedCommand();
-    }
-
+public final class PromisesTest extends Checks {
     /** All that a caller can see, without the output text. */
     private static String stateOf(BridgeChapel chapel) {
         StringBuilder text = new StringBuilder();
@@ -93,57 +15,6 @@ public final class PromisesTest {
                 .append(" steel ").append(chapel.steel()).append('=').append(chapel.steelByAccounts())
                 .append(" kept ").append(chapel.keptTotal()).append(" broken ").append(chapel.brokenTotal())
                 .toString();
-    }
-
-    private static void refusesPairs(PairCall call) {
-        int[] noJoints = {-1, 8, LEAST, MOST};
-        for (int joint : noJoints) {
-            refused(INDEX, () -> call.answer(joint, 0));
-            refused(INDEX, () -> call.answer(0, joint));
-            refused(INDEX, () -> call.answer(joint, joint));
-        }
-        for (int joint = 0; joint < 8; joint++) {
-            int same = joint;
-            refused(ARGUMENT, () -> call.answer(same, same));
-        }
-    }
-
-    private static void refusesMembers(int count, MemberCall call) {
-        refused(INDEX, () -> call.answer(-1));
-        refused(INDEX, () -> call.answer(count));
-        refused(INDEX, () -> call.answer(16));
-        refused(INDEX, () -> call.answer(LEAST));
-        refused(INDEX, () -> call.answer(MOST));
-    }
-
-    /** A ring over the joints 0 to 3 with a tail to 4: 0-1, 1-2, 2-3, 0-3, 3-4. */
-    private static BridgeChapel ring() {
-        BridgeChapel chapel = new BridgeChapel();
-        chapel.addMember(0, 1, 60);
-        chapel.addMember(1, 2, 50);
-        chapel.addMember(2, 3, 55);
-        chapel.addMember(0, 3, 40);
-        chapel.addMember(3, 4, 99);
-        return chapel;
-    }
-
-    /** Walks over the member, with all others abandoned meanwhile, until it has the crack. */
-    private static void crackTo(BridgeChapel chapel, int member, int crack) {
-        boolean[] left = new boolean[chapel.memberCount()];
-        for (int other = 0; other < left.length; other++) {
-            left[other] = other != member && !chapel.isAbandoned(other);
-            if (left[other]) {
-                chapel.abandon(other);
-            }
-        }
-        while (chapel.crack(member) < crack) {
-            chapel.procession(chapel.firstJoint(member), chapel.secondJoint(member), chapel.bearing(member));
-        }
-        for (int other = 0; other < left.length; other++) {
-            if (left[other]) {
-                chapel.resume(other);
-            }
-        }
     }
 
     private static void promise1() {
@@ -391,7 +262,7 @@ public final class PromisesTest {
         refusesMembers(2, chapel::firstJoint);
         due(2, chapel.firstJoint(0));
         due(0, chapel.firstJoint(1));
-        promise = 14;
+        about = "promise 14";
         refusesMembers(2, chapel::secondJoint);
         due(6, chapel.secondJoint(0));
         due(7, chapel.secondJoint(1));
@@ -405,11 +276,11 @@ public final class PromisesTest {
         chapel.procession(3, 4, 98);
         due(1, chapel.crack(4));
         due(0, chapel.crack(0));
-        promise = 16;
+        about = "promise 16";
         refusesMembers(5, chapel::wear);
         due(97, chapel.wear(4));
         due(0, chapel.wear(0));
-        promise = 17;
+        about = "promise 17";
         refusesMembers(5, chapel::isAbandoned);
         due(false, chapel.isAbandoned(4));
         chapel.abandon(4);
@@ -461,7 +332,7 @@ public final class PromisesTest {
         due(1.0f / 99.0f, chapel.strain(0, 1));
         due((float) LEAST / 36.0f, chapel.strain(1, LEAST));
         due((float) MOST / 99.0f, chapel.strain(0, MOST));
-        promise = 21;
+        about = "promise 21";
         refusesMembers(2, member -> chapel.strainBits(member, 5));
         int[] loads = {0, 1, -1, 2, 17, 18, 36, 37, -99, 99, 16777217, -16777219, LEAST, LEAST + 1, MOST, 1 << 30};
         for (int member = 0; member < 2; member++) {
@@ -472,12 +343,12 @@ public final class PromisesTest {
         }
         chapel.abandon(0);
         refused(ARITHMETIC, () -> chapel.strainBits(0, 5));
-        promise = 20;
+        about = "promise 20";
         refused(ARITHMETIC, () -> chapel.strain(0, 5));
         refused(ARITHMETIC, () -> chapel.strain(0, 0));
 
         // Every bearing from 1 to 99 with many loads, for the bits are made by arithmetic.
-        promise = 21;
+        about = "promise 21";
         for (int strength = 1; strength <= 99; strength++) {
             BridgeChapel one = new BridgeChapel();
             one.addMember(0, 1, strength);
@@ -516,31 +387,31 @@ public final class PromisesTest {
     }
 
     private static void widest(BridgeChapel chapel, int want, int from, int to) {
-        promise = 23;
+        about = "promise 23";
         due(want, chapel.widestLoad(from, to));
         due(want, chapel.widestLoad(to, from));
-        promise = 24;
+        about = "promise 24";
         due(want, chapel.widestLoadByTrial(from, to));
         due(want, chapel.widestLoadByTrial(to, from));
     }
 
     private static void noWay(BridgeChapel chapel, int from, int to) {
-        promise = 23;
+        about = "promise 23";
         refused(ELEMENT, () -> chapel.widestLoad(from, to));
-        promise = 24;
+        about = "promise 24";
         refused(ELEMENT, () -> chapel.widestLoadByTrial(from, to));
-        promise = 25;
+        about = "promise 25";
         refused(ELEMENT, () -> chapel.wayLength(from, to));
-        promise = 26;
+        about = "promise 26";
         refused(ELEMENT, () -> chapel.wayJoint(from, to, 0));
-        promise = 50;
+        about = "promise 50";
         refused(ELEMENT, () -> chapel.renderWay(from, to));
     }
 
     private static void promises23And24() {
         BridgeChapel chapel = ring();
         refusesPairs(chapel::widestLoad);
-        promise = 24;
+        about = "promise 24";
         refusesPairs(chapel::widestLoadByTrial);
         widest(chapel, 50, 0, 3);
         widest(chapel, 50, 0, 4);
@@ -575,7 +446,7 @@ public final class PromisesTest {
         due(3, chapel.wayLength(0, 3));
         due(4, chapel.wayLength(0, 4));
         due(1, chapel.wayLength(4, 3));
-        promise = 26;
+        about = "promise 26";
         refusesPairs((from, to) -> chapel.wayJoint(from, to, 0));
         refusesPairs((from, to) -> chapel.wayJoint(from, to, -1));
         for (int position = 0; position <= 3; position++) {
@@ -625,16 +496,16 @@ public final class PromisesTest {
     }
 
     private static void critical(BridgeChapel chapel, boolean want, int member) {
-        promise = 27;
+        about = "promise 27";
         due(want, chapel.isCritical(member));
-        promise = 28;
+        about = "promise 28";
         due(want, chapel.isCriticalByRemoval(member));
     }
 
     private static void promises27And28() {
         BridgeChapel chapel = ring();
         refusesMembers(5, chapel::isCritical);
-        promise = 28;
+        about = "promise 28";
         refusesMembers(5, chapel::isCriticalByRemoval);
         for (int member = 0; member < 4; member++) {
             critical(chapel, false, member);
@@ -674,25 +545,25 @@ public final class PromisesTest {
     }
 
     private static void affordable(BridgeChapel chapel, int want, int from, int to) {
-        promise = 29;
+        about = "promise 29";
         due(want, chapel.affordableLoad(from, to));
         due(want, chapel.affordableLoad(to, from));
-        promise = 30;
+        about = "promise 30";
         due(want, chapel.affordableLoadByTable(from, to));
         due(want, chapel.affordableLoadByTable(to, from));
     }
 
     private static void notAffordable(BridgeChapel chapel, int from, int to) {
-        promise = 29;
+        about = "promise 29";
         refused(ELEMENT, () -> chapel.affordableLoad(from, to));
-        promise = 30;
+        about = "promise 30";
         refused(ELEMENT, () -> chapel.affordableLoadByTable(from, to));
     }
 
     private static void promises29And30() {
         BridgeChapel chapel = ring();
         refusesPairs(chapel::affordableLoad);
-        promise = 30;
+        about = "promise 30";
         refusesPairs(chapel::affordableLoadByTable);
         affordable(chapel, 50, 0, 3);
         notAffordable(chapel, 0, 7);
@@ -736,7 +607,7 @@ public final class PromisesTest {
         for (int walk = 0; walk < 100; walk++) {
             row.procession(6, 7, 1);
         }
-        promise = 23;
+        about = "promise 23";
         refused(ELEMENT, () -> row.widestLoad(6, 7));
         affordable(row, 1, 6, 7);
         row.setForge(0);
@@ -807,7 +678,7 @@ public final class PromisesTest {
         due('c', chapel.nicheKind());
         chapel.setNiche('l');
         due('l', chapel.nicheKind());
-        promise = 33;
+        about = "promise 33";
         for (int place = 0; place < 4; place++) {
             due(20 * place, chapel.nicheWeight());
             chapel.put(place, 'l', 20);
@@ -823,7 +694,7 @@ public final class PromisesTest {
         chapel.makeVow(5, 12);
         chapel.makeVow(3, 13);
         due(4, chapel.vowCount());
-        promise = 35;
+        about = "promise 35";
         int[] order = {1, 3, 0, 2};
         for (int position = 0; position < 4; position++) {
             due(order[position], chapel.vowAt(position));
@@ -831,35 +702,35 @@ public final class PromisesTest {
         refused(ELEMENT, () -> chapel.vowAt(4));
         refused(ELEMENT, () -> chapel.vowAt(-1));
         refused(ELEMENT, () -> chapel.vowAt(MOST));
-        promise = 36;
+        about = "promise 36";
         due(5, chapel.dueDay(0));
         due(3, chapel.dueDay(3));
         refused(ELEMENT, () -> chapel.dueDay(4));
         refused(ELEMENT, () -> chapel.dueDay(-1));
-        promise = 37;
+        about = "promise 37";
         due(10, chapel.amount(0));
         due(13, chapel.amount(3));
         refused(ELEMENT, () -> chapel.amount(4));
         refused(ELEMENT, () -> chapel.amount(-1));
         chapel.passDays(3);
-        promise = 34;
+        about = "promise 34";
         due(2, chapel.vowCount());
-        promise = 35;
+        about = "promise 35";
         due(0, chapel.vowAt(0));
         due(2, chapel.vowAt(1));
         refused(ELEMENT, () -> chapel.vowAt(2));
-        promise = 36;
+        about = "promise 36";
         refused(ELEMENT, () -> chapel.dueDay(1));
         due(5, chapel.dueDay(2));
-        promise = 37;
+        about = "promise 37";
         refused(ELEMENT, () -> chapel.amount(3));
         due(12, chapel.amount(2));
     }
 
     private static void keepable(BridgeChapel chapel, boolean want) {
-        promise = 38;
+        about = "promise 38";
         due(want, chapel.canKeepAll());
-        promise = 39;
+        about = "promise 39";
         due(want, chapel.canKeepAllBySums());
     }
 
@@ -923,24 +794,24 @@ public final class PromisesTest {
         due(0, chapel.keptTotal());
         chapel.passDays(2);
         due(2, chapel.keptTotal());
-        promise = 42;
+        about = "promise 42";
         due(1, chapel.brokenTotal());
-        promise = 43;
+        about = "promise 43";
         due(23, chapel.steel());
-        promise = 44;
+        about = "promise 44";
         due(23, chapel.steelByAccounts());
         crackTo(chapel, 0, 2);
         chapel.repair(0);
         due(3, chapel.steelByAccounts());
-        promise = 43;
+        about = "promise 43";
         due(3, chapel.steel());
-        promise = 45;
+        about = "promise 45";
         due(2, chapel.day());
         chapel.passDays(30);
         due(32, chapel.day());
-        promise = 43;
+        about = "promise 43";
         due(153, chapel.steel());
-        promise = 44;
+        about = "promise 44";
         due(153, chapel.steelByAccounts());
         chapel.undo();
         due(3, chapel.steelByAccounts());
@@ -951,24 +822,24 @@ public final class PromisesTest {
     private static void promises46And47() {
         BridgeChapel chapel = new BridgeChapel();
         refused(ARITHMETIC, chapel::meanBearing);
-        promise = 47;
+        about = "promise 47";
         refused(ARITHMETIC, chapel::crackedShare);
         chapel.addMember(0, 1, 50);
         chapel.addMember(1, 2, 40);
         chapel.addMember(2, 3, 31);
-        promise = 46;
+        about = "promise 46";
         due(121.0 / 3.0, chapel.meanBearing());
-        promise = 47;
+        about = "promise 47";
         due(0.0f, chapel.crackedShare());
         crackTo(chapel, 0, 1);
         due(1.0f / 3.0f, chapel.crackedShare());
         crackTo(chapel, 0, 2);
         due(1.0f / 3.0f, chapel.crackedShare());
-        promise = 46;
+        about = "promise 46";
         due(111.0 / 3.0, chapel.meanBearing());
         chapel.abandon(0);
         due(71.0 / 3.0, chapel.meanBearing());
-        promise = 47;
+        about = "promise 47";
         due(1.0f / 3.0f, chapel.crackedShare());
     }
 
@@ -1265,38 +1136,38 @@ public final class PromisesTest {
             due(member, chapel.memberByBearing(member));
             critical(chapel, false, member);
         }
-        promise = 48;
+        about = "promise 48";
         due(true, chapel.isConsistent());
-        promise = 46;
+        about = "promise 46";
         due(57.5, chapel.meanBearing());
-        promise = 47;
+        about = "promise 47";
         due(0.0f, chapel.crackedShare());
         widest(chapel, 53, 0, 4);
         affordable(chapel, 53, 0, 4);
-        promise = 3;
+        about = "promise 3";
         due(3, chapel.procession(0, 4, 40));
-        promise = 7;
+        about = "promise 7";
         due(1, chapel.abandon(15));
-        promise = 35;
+        about = "promise 35";
         due(7, chapel.vowAt(0));
         refused(ELEMENT, () -> chapel.vowAt(8));
-        promise = 36;
+        about = "promise 36";
         due(2, chapel.dueDay(7));
         refused(ELEMENT, () -> chapel.dueDay(8));
         keepable(chapel, false);
         chapel.setForge(15);
         keepable(chapel, true);
-        promise = 40;
+        about = "promise 40";
         due(45, chapel.greatestVow(1));
-        promise = 11;
+        about = "promise 11";
         due(8, chapel.passDays(9));
     }
 
     private static void promises57And58() {
         BridgeChapel chapel = ring();
-        promise = 58;
+        about = "promise 58";
         refused(STATE, chapel::restore);
-        promise = 57;
+        about = "promise 57";
         chapel.procession(3, 4, 99);
         chapel.makeVow(9, 8);
         chapel.put(2, 'c', 3);
@@ -1310,7 +1181,7 @@ public final class PromisesTest {
         chapel.setNiche('l');
         chapel.abandon(0);
         typeAll(chapel, "da");
-        promise = 58;
+        about = "promise 58";
         due(5, chapel.restore());
         due(saved, stateOf(chapel));
         refused(STATE, chapel::undo);
@@ -1321,13 +1192,13 @@ public final class PromisesTest {
         chapel.passDays(1);
         due(5, chapel.restore());
         due(saved, stateOf(chapel));
-        promise = 57;
+        about = "promise 57";
         chapel.addMember(6, 7, 5);
         due(6, chapel.save());
         // A snapshot is no change, and undo does not touch it.
         due(0, chapel.undo());
         due(5, chapel.memberCount());
-        promise = 58;
+        about = "promise 58";
         due(6, chapel.restore());
         due(6, chapel.memberCount());
         // The snapshot has the members that were then, not those that took their places.
@@ -1393,7 +1264,7 @@ public final class PromisesTest {
 
     public static void main(String[] args) {
         for (int number = 1; number <= 58; number++) {
-            promise = number;
+            about = "promise " + number;
             check(number);
         }
         System.out.println(checks + " checks, " + wrong + " wrong");
