@@ -47,8 +47,8 @@ final class HistorySentences extends Checks {
         chapel.abandon(2);
         chapel.makeVow(1, 40);
         chapel.makeVow(1, 2);
-        chapel.makeVow(4, 20);
         chapel.makeVow(3, 6);
+        chapel.makeVow(4, 20);
         chapel.passDays(1);
         chapel.put(0, 'c', 3);
         chapel.save();
@@ -67,6 +67,7 @@ final class HistorySentences extends Checks {
                 undoCovers(change);
                 snapshotCovers(change);
             }
+            placesTakenAgain();
             whatIsNotCovered();
         });
         tests.test("A method that throws an exception changes nothing unless its description says otherwise.",
@@ -180,6 +181,40 @@ final class HistorySentences extends Checks {
         later.passDays(30);
         later.restore();
         due(made, look(later));
+    }
+
+    /** What was added later in the place of something that was undone does not stay when the latter comes back. */
+    private static void placesTakenAgain() {
+        BridgeChapel chapel = new BridgeChapel();
+        chapel.addMember(0, 1, 10);
+        chapel.makeVow(3, 4);
+        chapel.save();
+        String saved = look(chapel);
+        due((1L << 1) + (1L << 8), chapel.links());
+        due(10, chapel.affordableLoadByTable(0, 1));
+        chapel.undo();
+        chapel.undo();
+        due(0L, chapel.links());
+        due(0, chapel.vowCount());
+        refused(ELEMENT, () -> chapel.widestLoad(0, 1));
+        refused(ELEMENT, () -> chapel.affordableLoadByTable(0, 1));
+        chapel.addMember(2, 3, 20);
+        chapel.abandon(0);
+        chapel.makeVow(5, 6);
+        chapel.restore();
+        due(saved, look(chapel));
+        due("0:0-1s10c0w0", TermSentences.memberOf(chapel, 0));
+        due((1L << 1) + (1L << 8), chapel.links());
+        refused(ELEMENT, () -> chapel.widestLoad(2, 3));
+        // The same with the members that undo brings back, and with one that is added after a worn one.
+        chapel.addMember(2, 3, 30);
+        crackTo(chapel, 1, 1);
+        chapel.abandon(1);
+        chapel.restore();
+        due(1, chapel.addMember(4, 5, 40));
+        due("1:4-5s40c0w0", TermSentences.memberOf(chapel, 1));
+        due(0, chapel.undo());
+        due(saved, look(chapel));
     }
 
     private static void whatIsNotCovered() {

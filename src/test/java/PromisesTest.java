@@ -352,11 +352,9 @@ public final class PromisesTest extends Checks {
         for (int strength = 1; strength <= 99; strength++) {
             BridgeChapel one = new BridgeChapel();
             one.addMember(0, 1, strength);
-            for (int load = -300; load <= 300; load++) {
-                checks++;
-                if (one.strainBits(0, load * 7919) != Float.floatToIntBits((float) (load * 7919) / (float) strength)) {
-                    due("the bits of " + load * 7919 + "/" + strength, one.strainBits(0, load * 7919));
-                }
+            for (int factor = -250; factor <= 250; factor++) {
+                int load = factor * 7919;
+                due(Float.floatToIntBits((float) load / (float) strength), one.strainBits(0, load));
             }
         }
     }
@@ -944,6 +942,26 @@ public final class PromisesTest extends Checks {
         due(1, run(chapel, "day 001"));
         due(1, run(chapel, "put 3 l020"));
         due(20, chapel.nicheWeight());
+        due(2, run(chapel, "niche c;niche l"));
+        due(0, chapel.nicheWeight());
+        // The form is looked at before anything is executed, and the buffer is empty after each script.
+        due(4, errorOf(chapel, "day;x"));
+        due(20, chapel.day());
+        due(1, run(chapel, "day"));
+        due(21, chapel.day());
+        // A whole script is one change.
+        due(3, run(chapel, "day;day;day"));
+        chapel.undo();
+        due(21, chapel.day());
+        scriptsAreOneChange();
+        scriptsFail();
+    }
+
+    /** Two members, on day 20, with a lamp in the place 3. */
+    private static void scriptsFail() {
+        BridgeChapel chapel = new BridgeChapel();
+        due(2, run(chapel, "member 01 40;member 12 30"));
+        due(3, run(chapel, "niche l;put 3 l20;day 20"));
         String before = stateOf(chapel);
         due(2, failedOf(chapel, "day 2;put 0 l9;put 0 l9"));
         due(before, stateOf(chapel));
@@ -964,18 +982,6 @@ public final class PromisesTest extends Checks {
         due(0, failedOf(chapel, "day 0"));
         due(3, failedOf(chapel, "abandon 0;abandon 1;resume 1;resume 1"));
         due(before, stateOf(chapel));
-        due(2, run(chapel, "niche c;niche l"));
-        due(0, chapel.nicheWeight());
-        // The form is looked at before anything is executed, and the buffer is empty after each script.
-        due(4, errorOf(chapel, "day;x"));
-        due(20, chapel.day());
-        due(1, run(chapel, "day"));
-        due(21, chapel.day());
-        // A whole script is one change.
-        due(3, run(chapel, "day;day;day"));
-        chapel.undo();
-        due(21, chapel.day());
-        scriptsAreOneChange();
     }
 
     private static void scriptsAreOneChange() {
@@ -1014,7 +1020,8 @@ public final class PromisesTest extends Checks {
             2, 4, 3, 3, 4, 5, 7, 4, 4, 4, 0,
             10, 0, 0, 21, 3};
         for (int index = 0; index < scripts.length; index++) {
-            due(scripts[index] + " " + positions[index], scripts[index] + " " + errorOf(chapel, scripts[index]));
+            BridgeChapel other = new BridgeChapel();
+            due(scripts[index] + " " + positions[index], scripts[index] + " " + errorOf(other, scripts[index]));
             due(positions[index], ReferenceChapel.errorPositionOf(scripts[index]));
         }
         // Sixty characters hold fifteen commands; a sixteenth does not begin.
@@ -1050,11 +1057,8 @@ public final class PromisesTest extends Checks {
         BridgeChapel chapel = new BridgeChapel();
         refused(STATE, chapel::undo);
         String[] states = new String[12];
-        states[0] = stateOf(chapel);
         chapel.addMember(0, 1, 99);
-        states[1] = stateOf(chapel);
         chapel.procession(0, 1, 99);
-        states[2] = stateOf(chapel);
         chapel.procession(1, 0, 99);
         states[3] = stateOf(chapel);
         chapel.repair(0);
@@ -1080,19 +1084,7 @@ public final class PromisesTest extends Checks {
         }
         refused(STATE, chapel::undo);
         due(states[3], stateOf(chapel));
-        // The same state again is a change too, and what was undone does not come back.
-        due(5, chapel.setForge(5));
-        due(5, chapel.setForge(6));
-        due(1, chapel.undo());
-        due(5, chapel.setForge(7));
-        due(1, chapel.undo());
-        due(0, chapel.undo());
-        due(0, chapel.makeVow(5, 5));
-        chapel.undo();
-        due(0, chapel.makeVow(5, 5));
-        typeAll(chapel, "da");
-        chapel.undo();
-        due(3, chapel.type('y'));
+        undoIsNoChange();
         undoCoversVows();
         // A member that was undone leaves nothing behind in the next one.
         BridgeChapel again = new BridgeChapel();
@@ -1105,6 +1097,23 @@ public final class PromisesTest extends Checks {
         due(0, again.memberCount());
         again.addMember(2, 3, 20);
         due("0:2-3s20c0w0", outputOf(again, again.renderMember(0)));
+    }
+
+    /** The same state again is a change too, and what was undone does not come back. */
+    private static void undoIsNoChange() {
+        BridgeChapel chapel = new BridgeChapel();
+        due(5, chapel.setForge(5));
+        due(5, chapel.setForge(6));
+        due(1, chapel.undo());
+        due(5, chapel.setForge(7));
+        due(1, chapel.undo());
+        due(0, chapel.undo());
+        due(0, chapel.makeVow(5, 5));
+        chapel.undo();
+        due(0, chapel.makeVow(5, 5));
+        typeAll(chapel, "da");
+        chapel.undo();
+        due(3, chapel.type('y'));
     }
 
     private static void undoCoversVows() {

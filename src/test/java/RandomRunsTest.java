@@ -2,8 +2,9 @@ import java.util.Objects;
 
 /** Long runs of calls, made by a fixed rule, that BridgeChapel and ReferenceChapel must answer alike. */
 public final class RandomRunsTest {
-    private static final int RUNS = 400;
-    private static final int CALLS = 512;
+    private static final int RUNS = 2000;
+    /** The document promises nothing about an object after so many calls. */
+    private static final int MOST_CALLS = 512;
     private static final int[] ODD_NUMBERS = {-1, 0, 7, 8, 15, 16, 20, 21, 30, 31, 99, 100, 127, 255, 1000,
         Integer.MAX_VALUE, Integer.MIN_VALUE};
     private static final String[] FRAGMENTS = {"member ", "walk ", "vow ", "forge ", "repair ", "abandon ", "resume ",
@@ -17,6 +18,7 @@ public final class RandomRunsTest {
     private BridgeChapel chapel;
     private ReferenceChapel reference;
     private final StringBuilder told = new StringBuilder();
+    private int calls = 0;
     private int wrong = 0;
 
     private RandomRunsTest(long seed) {
@@ -51,7 +53,11 @@ public final class RandomRunsTest {
         }
     }
 
-    private Object compare(String name, Call real, Call due) {
+    private void compare(String name, Call real, Call due) {
+        if (calls >= MOST_CALLS) {
+            return;
+        }
+        calls++;
         Object answered = outcome(real);
         Object wanted = outcome(due);
         told.append(name).append(" = ").append(answered).append('\n');
@@ -60,7 +66,6 @@ public final class RandomRunsTest {
             System.out.println(told);
             System.out.println("... but due is " + wanted);
         }
-        return answered;
     }
 
     private void run(int run) {
@@ -68,9 +73,9 @@ public final class RandomRunsTest {
         reference = new ReferenceChapel();
         boolean weak = run % 5 == 0;
         boolean poor = run % 3 == 0;
-        for (int call = 0; call < CALLS && wrong == 0; call++) {
+        while (calls < MOST_CALLS && wrong == 0) {
             int choice = below(100);
-            if (choice < (call < 40 ? 60 : 3)) {
+            if (choice < (calls < 40 ? 60 : 3)) {
                 addMember(weak);
             } else if (choice < 30) {
                 procession();
@@ -258,7 +263,11 @@ public final class RandomRunsTest {
             case 7 -> compare("nicheWeight", () -> chapel.nicheWeight(), () -> reference.nicheWeight());
             case 8 -> compare("nicheKind", () -> chapel.nicheKind(), () -> reference.nicheKind());
             case 9 -> compare("links", () -> chapel.links(), () -> reference.links());
-            case 10 -> renderAllMembers();
+            case 10 -> {
+                compare("renderMember " + member, () -> chapel.renderMember(member),
+                        () -> reference.renderMember(member));
+                compareOutput();
+            }
             case 11 -> compare("isConsistent", () -> chapel.isConsistent(), () -> reference.isConsistent());
             case 12 -> compare("firstJoint " + member, () -> chapel.firstJoint(member),
                     () -> reference.firstJoint(member));
@@ -323,29 +332,10 @@ public final class RandomRunsTest {
         compare("amount " + vow, () -> chapel.amount(vow), () -> reference.amount(vow));
     }
 
-    private void renderAllMembers() {
-        for (int member = 0; member <= reference.memberCount(); member++) {
-            int rendered = member;
-            compare("renderMember " + member, () -> chapel.renderMember(rendered),
-                    () -> reference.renderMember(rendered));
-            compareOutput();
-        }
-    }
-
-    private interface Output {
-        char at(int index);
-    }
-
-    private static String whole(Output output) {
-        StringBuilder text = new StringBuilder();
-        for (int index = -1; index < 17; index++) {
-            int place = index;
-            text.append(outcome(() -> output.at(place))).append(' ');
-        }
-        return text.toString();
-    }
-
     private void compareOutput() {
-        compare("outputAt -1 to 16", () -> whole(chapel::outputAt), () -> whole(reference::outputAt));
+        for (int index = 0; index <= 16; index += 1 + below(3)) {
+            int place = odd(index);
+            compare("outputAt " + place, () -> chapel.outputAt(place), () -> reference.outputAt(place));
+        }
     }
 }

@@ -289,6 +289,12 @@ final class TermSentences extends Checks {
             lay(lowest, "31", 29);
             lay(lowest, "17", 30);
             due("0>3>4>7", wayOf(lowest, 0, 7));
+            // Nor does it help a way that has more members.
+            BridgeChapel longer = new BridgeChapel();
+            lay(longer, "347", 30);
+            lay(longer, "3057", 30);
+            due("3>4>7", wayOf(longer, 3, 7));
+            due("7>4>3", wayOf(longer, 7, 3));
             BridgeChapel late = new BridgeChapel();
             lay(late, "0263", 30);
             lay(late, "253", 30);

@@ -50,7 +50,24 @@ final class WaySentences extends PromiseSentences {
         tests.test(NO_WAY, () -> noWay(asked));
     }
 
+    /** Any joint may be the one between two others, whatever its number. */
+    private static void anyJointBetween(AskedOfPair asked) {
+        for (int middle = 0; middle < 8; middle++) {
+            for (int step = 1; step < 7; step++) {
+                BridgeChapel chapel = new BridgeChapel();
+                int from = (middle + step) % 8;
+                int to = (middle + 7) % 8;
+                chapel.addMember(from, middle, 20);
+                chapel.addMember(to, middle, 30);
+                chapel.addMember(from, to, 19);
+                due(20, asked.answer(chapel, from, to));
+                due(20, asked.answer(chapel, to, from));
+            }
+        }
+    }
+
     private static void widestWays(AskedOfPair asked) {
+        anyJointBetween(asked);
         // The wide detour through all joints, and the narrow members beside it.
         BridgeChapel chapel = TermSentences.line(31, 37, 36, 35, 34, 33, 32);
         due(31, asked.answer(chapel, 0, 7));
@@ -326,7 +343,25 @@ final class WaySentences extends PromiseSentences {
         due(48, asked.answer(chapel, 0, 1));
         spend(chapel, 0);
         due(48, asked.answer(chapel, 0, 2));
+        anyJointBetween(asked);
         twoWays(asked);
+        longWay(asked);
+    }
+
+    /** All eight joints in a row: each repair costs 5, and the steel is for six of the seven. */
+    private static void longWay(AskedOfPair asked) {
+        BridgeChapel chapel = TermSentences.line(50, 50, 50, 50, 50, 50, 50);
+        for (int member = 0; member < 7; member++) {
+            crackTo(chapel, member, 1);
+        }
+        due(30, chapel.steel());
+        due(45, asked.answer(chapel, 0, 7));
+        due(45, asked.answer(chapel, 7, 0));
+        due(50, asked.answer(chapel, 0, 6));
+        due(50, asked.answer(chapel, 7, 1));
+        chapel.passDays(1);
+        due(50, asked.answer(chapel, 0, 7));
+        due(50, asked.answer(chapel, 7, 0));
     }
 
     /** Both ways from 0 to 7 bear 80 when repaired, for 24 by three members and for 32 by two. */
