@@ -1284,27 +1284,28 @@ public final class BridgeChapel {
                 number[joint] = 0;
                 lowest[joint] = 0;
             }
-            visit(bearing, one, NONE, 1);
+            visit(this, bearing, one, NONE, 1);
             // Had the search come to the other joint by another member, it would have seen the first joint from there.
             return lowest[other] > number[one];
         }
 
-        private void visit(int[][] bearing, int joint, int cameFrom, int depth) {
+        /** Static because LANGUAGE.md lets only static methods call themselves. */
+        private static void visit(CriticalSearch search, int[][] bearing, int joint, int cameFrom, int depth) {
             if (depth > JOINTS) {
                 return;
             }
-            numbered++;
-            number[joint] = numbered;
-            lowest[joint] = numbered;
+            search.numbered++;
+            search.number[joint] = search.numbered;
+            search.lowest[joint] = search.numbered;
             for (int next = 0; next < JOINTS; next++) {
                 if (next == cameFrom || bearing[joint][next] == 0) {
                     continue;
                 }
-                if (number[next] == 0) {
-                    visit(bearing, next, joint, depth + 1);
-                    lowest[joint] = Math.min(lowest[joint], lowest[next]);
+                if (search.number[next] == 0) {
+                    visit(search, bearing, next, joint, depth + 1);
+                    search.lowest[joint] = Math.min(search.lowest[joint], search.lowest[next]);
                 } else {
-                    lowest[joint] = Math.min(lowest[joint], number[next]);
+                    search.lowest[joint] = Math.min(search.lowest[joint], search.number[next]);
                 }
             }
         }

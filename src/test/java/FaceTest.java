@@ -6,84 +6,15 @@ import java.lang.reflect.Method;
 import java.lang.reflect.Modifier;
 import java.nio.file.Files;
 import java.nio.file.Path;
-import java.util.HashSet;
 import java.util.Set;
 import java.util.TreeSet;
-import java.util.regex.Matcher;
-import java.util.regex.Pattern;
 
-/** The public face is the document's, and the source holds nothing that LANGUAGE.md plainly rules out. */
+/** The compiled class shows what the document's "The public face" lists, and nothing else. */
 public final class FaceTest {
-    private static final Path SOURCE = Path.of("src/main/java/BridgeChapel.java");
-
-    /** As the document writes them, without "public". */
-    private static final String[] FACE = {
-        "BridgeChapel()",
-        "int addMember(int one, int other, int strength) throws IndexOutOfBoundsException, IllegalArgumentException, IllegalStateException",
-        "int procession(int from, int to, int load) throws IndexOutOfBoundsException, IllegalArgumentException, NoSuchElementException, UnsupportedOperationException",
-        "int makeVow(int dueDay, int amount) throws IllegalArgumentException, IllegalStateException",
-        "int setForge(int units) throws IllegalArgumentException",
-        "int repair(int member) throws IndexOutOfBoundsException, IllegalStateException, UnsupportedOperationException",
-        "int abandon(int member) throws IndexOutOfBoundsException, IllegalStateException",
-        "int resume(int member) throws IndexOutOfBoundsException, IllegalStateException",
-        "int setNiche(char kind) throws IllegalArgumentException",
-        "int put(int place, char kind, int weight) throws IndexOutOfBoundsException, IllegalArgumentException, UnsupportedOperationException, IllegalStateException",
-        "int passDays(int days) throws IllegalArgumentException",
-        "int memberCount()",
-        "int firstJoint(int member) throws IndexOutOfBoundsException",
-        "int secondJoint(int member) throws IndexOutOfBoundsException",
-        "int crack(int member) throws IndexOutOfBoundsException",
-        "int wear(int member) throws IndexOutOfBoundsException",
-        "boolean isAbandoned(int member) throws IndexOutOfBoundsException",
-        "int bearing(int member) throws IndexOutOfBoundsException",
-        "int repairCost(int member) throws IndexOutOfBoundsException",
-        "float strain(int member, int load) throws IndexOutOfBoundsException, ArithmeticException",
-        "int strainBits(int member, int load) throws IndexOutOfBoundsException, ArithmeticException",
-        "long links()",
-        "int widestLoad(int from, int to) throws IndexOutOfBoundsException, IllegalArgumentException, NoSuchElementException",
-        "int widestLoadByTrial(int from, int to) throws IndexOutOfBoundsException, IllegalArgumentException, NoSuchElementException",
-        "int wayLength(int from, int to) throws IndexOutOfBoundsException, IllegalArgumentException, NoSuchElementException",
-        "int wayJoint(int from, int to, int position) throws IndexOutOfBoundsException, IllegalArgumentException, NoSuchElementException",
-        "boolean isCritical(int member) throws IndexOutOfBoundsException",
-        "boolean isCriticalByRemoval(int member) throws IndexOutOfBoundsException",
-        "int affordableLoad(int from, int to) throws IndexOutOfBoundsException, IllegalArgumentException, NoSuchElementException",
-        "int affordableLoadByTable(int from, int to) throws IndexOutOfBoundsException, IllegalArgumentException, NoSuchElementException",
-        "int memberByBearing(int rank) throws NoSuchElementException",
-        "char nicheKind()",
-        "int nicheWeight()",
-        "int vowCount()",
-        "int vowAt(int position) throws NoSuchElementException",
-        "int dueDay(int vow) throws NoSuchElementException",
-        "int amount(int vow) throws NoSuchElementException",
-        "boolean canKeepAll()",
-        "boolean canKeepAllBySums()",
-        "int greatestVow(int dueDay) throws IllegalArgumentException, NoSuchElementException",
-        "int keptTotal()",
-        "int brokenTotal()",
-        "int steel()",
-        "int steelByAccounts()",
-        "int day()",
-        "double meanBearing() throws ArithmeticException",
-        "float crackedShare() throws ArithmeticException",
-        "boolean isConsistent()",
-        "int renderMember(int member) throws IndexOutOfBoundsException",
-        "int renderWay(int from, int to) throws IndexOutOfBoundsException, IllegalArgumentException, NoSuchElementException",
-        "char outputAt(int index) throws IndexOutOfBoundsException",
-        "int type(char character) throws IllegalArgumentException, IllegalStateException",
-        "int runScript() throws IllegalArgumentException, IllegalStateException",
-        "int errorPosition() throws NoSuchElementException",
-        "int failedCommand() throws NoSuchElementException",
-        "int undo() throws IllegalStateException",
-        "int save()",
-        "int restore() throws IllegalStateException"
-    };
-
-    /** What the rules name, as patterns over the source without its comments and texts. */
-    private static final String[] RULED_OUT = {"\\bpackage\\b", "->", "::", "\\btry\\b", "\\bcatch\\b",
-        "\\bfinally\\b", "\\bsynchronized\\b", "\\bassert\\b", "\\bstatic\\s*\\{", "\\bFloat\\b", "\\bDouble\\b",
-        "\\bThread\\b", "\\bSystem\\.(?!arraycopy\\b)", "Exact\\b", "\\bRandom\\b", "\\bhashCode\\b", "\\bequals\\b",
-        "\\btoString\\b", "\\bimport (?!java\\.util\\.NoSuchElementException;)", "\\bgetMessage\\b", "\\bprotected\\b",
-        "\\bstatic (?!final|class)[\\w\\[\\]]+ \\w+( =|;)", "\\bwhile \\(true\\)", "\\bvar\\b"};
+    private static final Path DOCUMENT = Path.of("../shared/DOC.md");
+    private static final String PUBLIC = "    public ";
+    /** The constructor and 57 methods; so a document that is read wrongly does not pass for an empty face. */
+    private static final int PROMISES = 58;
 
     private static int wrong = 0;
 
@@ -126,11 +57,23 @@ public final class FaceTest {
         return text.toString();
     }
 
-    private static void checkFace() {
+    /** The document tells the face twice: in its own part and at the head of each promise. */
+    private static Set<String> wantedFace(boolean fromPromises) throws IOException {
         Set<String> wanted = new TreeSet<>();
-        for (String line : FACE) {
-            wanted.add(wanted(line));
+        for (String line : Files.readAllLines(DOCUMENT)) {
+            boolean inFace = line.startsWith(PUBLIC) && line.endsWith(";");
+            boolean inPromise = line.matches("`[^`]*\\([^`]*\\)[^`]*`: .*");
+            if (fromPromises && inPromise) {
+                wanted.add(wanted(line.substring(1, line.indexOf('`', 1))));
+            } else if (!fromPromises && inFace) {
+                wanted.add(wanted(line.substring(PUBLIC.length(), line.length() - 1)));
+            }
         }
+        demand(wanted.size() == PROMISES, "the document names " + wanted.size() + " methods");
+        return wanted;
+    }
+
+    private static Set<String> foundFace() {
         Set<String> found = new TreeSet<>();
         for (Constructor<?> constructor : BridgeChapel.class.getDeclaredConstructors()) {
             demand(Modifier.isPublic(constructor.getModifiers()), "a constructor is not public");
@@ -147,51 +90,24 @@ public final class FaceTest {
         for (Field field : BridgeChapel.class.getDeclaredFields()) {
             demand(Modifier.isPrivate(field.getModifiers()), field + " is not private");
         }
-        demand(wanted.equals(found), "the face is " + found + " where the document wants " + wanted);
-        demand(Modifier.isFinal(BridgeChapel.class.getModifiers()), "the class is not final");
+        return found;
     }
 
-    private static void checkNested() {
-        Set<String> faceNames = new HashSet<>();
-        for (String line : FACE) {
-            String head = line.substring(0, line.indexOf('('));
-            faceNames.add(head.substring(head.lastIndexOf(' ') + 1));
+    private static void checkSame(Set<String> wanted, Set<String> found) {
+        for (String line : wanted) {
+            demand(found.contains(line), "missing: " + line);
         }
-        int classes = 1;
-        for (Class<?> nested : BridgeChapel.class.getDeclaredClasses()) {
-            classes++;
-            demand(Modifier.isStatic(nested.getModifiers()), nested + " is not static");
-            demand(!Modifier.isPublic(nested.getModifiers()), nested + " is public");
-            demand(nested.getDeclaredFields().length <= 20, nested + " has too many fields");
-            for (Method method : nested.getDeclaredMethods()) {
-                demand(!faceNames.contains(method.getName()), method + " has a name of the face");
-                demand(method.getParameterCount() <= 7, method + " has too many parameters");
-            }
-        }
-        for (Method method : BridgeChapel.class.getDeclaredMethods()) {
-            demand(Modifier.isPublic(method.getModifiers()) || !faceNames.contains(method.getName()),
-                    method + " has a name of the face");
-        }
-        demand(classes <= 12, "there are " + classes + " classes");
-    }
-
-    private static void checkSource() throws IOException {
-        String source = Files.readString(SOURCE);
-        for (int index = 0; index < source.length(); index++) {
-            demand(source.charAt(index) < 128, "a sign at " + index + " is not plain");
-        }
-        String bare = source.replaceAll("(?s)/\\*.*?\\*/", " ").replaceAll("//[^\n]*", " ")
-                .replaceAll("\"[^\"\n]*\"", "\"\"");
-        for (String pattern : RULED_OUT) {
-            Matcher matcher = Pattern.compile(pattern).matcher(bare);
-            demand(!matcher.find(), "the source holds what is ruled out: " + pattern);
+        for (String line : found) {
+            demand(wanted.contains(line), "not in the document: " + line);
         }
     }
 
     public static void main(String[] args) throws IOException {
-        checkFace();
-        checkNested();
-        checkSource();
+        Set<String> found = foundFace();
+        checkSame(wantedFace(false), found);
+        checkSame(wantedFace(true), found);
+        demand(Modifier.isFinal(BridgeChapel.class.getModifiers()), "the class is not final");
+        demand(Modifier.isPublic(BridgeChapel.class.getModifiers()), "the class is not public");
         System.out.println(wrong == 0 ? "the face is the document's" : wrong + " faults");
         System.exit(wrong == 0 ? 0 : 1);
     }
